@@ -16,6 +16,8 @@ public final class SectionLand {
     private static final int MAX_PEOPLE = 48, MAX_WEDDINGS = 40;
     private static final int LAST_YEAR = 999, OLDEST_AGE = 40;
     private static final int YOUNGEST_PARENT = 12;
+    /** A way's digits to the base 8: six steps at most. */
+    private static final int STEP_BITS = 3, STEP_MASK = 7, WAY_BITS = 6 * STEP_BITS;
 
     private final Tape tape = new Tape();
     private final MarriageSystem[] systems = new MarriageSystem[MAX_SYSTEMS];
@@ -257,13 +259,10 @@ public final class SectionLand {
     }
 
     public int marry(int man, int woman, int year) {
-        if (!people.has(man) || !people.has(woman)) {
-            return NONE;
+        int hindrance = may(man, woman, year);
+        if (hindrance < 0) {
+            return hindrance;
         }
-        if (!isYear(year) || people.sex[man] != MAN || people.sex[woman] != WOMAN) {
-            return BAD;
-        }
-        int hindrance = hindranceOf(man, woman, year);
         if (hindrance >= 1 && hindrance <= 4) {
             return STATE;
         }
@@ -280,7 +279,12 @@ public final class SectionLand {
         if (!isYear(year) || people.sex[man] != MAN || people.sex[woman] != WOMAN) {
             return BAD;
         }
-        return hindranceOf(man, woman, year);
+        int his = ownHindrance(man, year);
+        int hers = ownHindrance(woman, year);
+        if (his != 0 && hers != 0) {
+            return Math.min(his, hers);
+        }
+        return his + hers != 0 ? his + hers : pairHindrance(man, woman, year);
     }
 
     public int about(int person, int what) {
@@ -449,11 +453,11 @@ public final class SectionLand {
     }
 
     private static boolean isWay(int way) {
-        if (way <= 0 || way >= 1 << 18) {
+        if (way <= 0 || way >= 1 << WAY_BITS) {
             return false;
         }
-        for (int rest = way; rest > 0; rest >>= 3) {
-            int step = rest & 7;
+        for (int shift = 0; shift < WAY_BITS && way >> shift != 0; shift += STEP_BITS) {
+            int step = way >> shift & STEP_MASK;
             if (step < MarriageSystem.FATHER || step > MarriageSystem.DAUGHTER) {
                 return false;
             }
@@ -500,16 +504,6 @@ public final class SectionLand {
         }
         return year - people.birth[mother] >= YOUNGEST_PARENT
                 && year - people.birth[father] >= YOUNGEST_PARENT;
-    }
-
-    /** What hinders a man and a woman, 1 to 5; 0: nothing. */
-    private int hindranceOf(int man, int woman, int year) {
-        int his = ownHindrance(man, year);
-        int hers = ownHindrance(woman, year);
-        if (his != 0 && hers != 0) {
-            return Math.min(his, hers);
-        }
-        return his + hers != 0 ? his + hers : pairHindrance(man, woman, year);
     }
 
     /** What hinders one, whomever one would marry: 1 to 3; 0: nothing. */
@@ -633,8 +627,8 @@ public final class SectionLand {
         /** The place to which a way leads. */
         int walk(int c, int sex, int way) {
             int place = 2 * c + sex;
-            for (int rest = way; rest > 0; rest >>= 3) {
-                place = stepFrom(place, rest & 7);
+            for (int shift = 0; shift < WAY_BITS && way >> shift != 0; shift += STEP_BITS) {
+                place = stepFrom(place, way >> shift & STEP_MASK);
             }
             return place;
         }
@@ -1046,7 +1040,7 @@ public final class SectionLand {
         private boolean findOneMore() {
             queueLoneMen();
             long seen = settledWomen;
-            for (int at = 0; at < queued; at++) {
+            for (int at = 0; at < queued && at < MAX_PEOPLE; at++) {
                 long fresh = brides[queue[at]] & ~seen;
                 seen |= fresh;
                 for (int woman = 0; fresh >>> woman != 0 && woman < MAX_PEOPLE; woman++) {
@@ -1126,7 +1120,7 @@ public final class SectionLand {
             settledMen = 0;
             queueLoneMen();
             long women = 0;
-            for (int at = 0; at < queued; at++) {
+            for (int at = 0; at < queued && at < MAX_PEOPLE; at++) {
                 long fresh = brides[queue[at]] & ~women;
                 women |= fresh;
                 for (int woman = 0; fresh >>> woman != 0 && woman < MAX_PEOPLE; woman++) {
