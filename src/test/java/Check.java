@@ -1,18 +1,43 @@
+import java.util.function.IntUnaryOperator;
+
 /** Counts the answers that are not as due, and prints them; each test ends with end(). */
 final class Check {
     private static final int MOST_PRINTED = 40;
 
     private int asked = 0;
     private int wrong = 0;
+    private String words = "";
 
-    /** The label tells the promise and the call. */
+    /** The words of a promise (0: of the terms) by which the next answers are due. */
+    void sentence(int promise, String itsWords) {
+        words = promise + " \"" + itsWords + "\": ";
+        due("these words stand in the document", Doc.says(promise, itsWords) ? 1 : 0, 1);
+    }
+
+    /** The label tells the call; without a sentence, the promise, too. */
     void due(String label, long got, long want) {
         asked++;
         if (got != want) {
             wrong++;
             if (wrong <= MOST_PRINTED) {
-                System.out.println(label + " answered " + got + ", due is " + want);
+                System.out.println(words + label + " answered " + got + ", due is " + want);
             }
+        }
+    }
+
+    /** Beside the bounds and at both ends of int the call is refused; each is asked of a new object. */
+    void outside(String label, int least, int greatest, int refusal, IntUnaryOperator call) {
+        int[] numbers = {least - 1, greatest + 1, Integer.MIN_VALUE, Integer.MIN_VALUE + 1,
+                Integer.MAX_VALUE - 1, Integer.MAX_VALUE};
+        for (int number : numbers) {
+            due(label + " " + number, call.applyAsInt(number), refusal);
+        }
+    }
+
+    /** The answers to the numbers from the first one on. */
+    void row(String label, int first, IntUnaryOperator call, int... want) {
+        for (int i = 0; i < want.length; i++) {
+            due(label + " " + (first + i), call.applyAsInt(first + i), want[i]);
         }
     }
 
@@ -27,11 +52,21 @@ final class Check {
         }
     }
 
-    /** Feeds a text byte by byte. */
+    /** Feeds a text eight bytes at a time. */
     static void feed(SectionLand x, String text) {
-        for (int i = 0; i < text.length(); i++) {
-            x.feed(text.charAt(i), 1);
+        for (int at = 0; at < text.length(); at += 8) {
+            int size = Math.min(8, text.length() - at);
+            x.feed(word(text.substring(at, at + size)), size);
         }
+    }
+
+    /** Up to eight bytes in one number, the first the highest. */
+    static long word(String bytes) {
+        long w = 0;
+        for (int i = 0; i < bytes.length(); i++) {
+            w = w << 8 | bytes.charAt(i);
+        }
+        return w;
     }
 
     /** Feeds a text and reads it. */

@@ -15,4 +15,27 @@ final class Texts {
 
     private Texts() {
     }
+
+    static char letter(int c) {
+        return (char) ('a' + c);
+    }
+
+    /** Rules in which class c marries class c + wife, and their child is of c + child, all modulo n. */
+    static String turning(int n, int wife, int child) {
+        StringBuilder text = new StringBuilder();
+        for (int c = 0; c < n; c++) {
+            text.append(c == 0 ? "" : ";").append(letter(c)).append('+').append(letter((c + wife) % n))
+                    .append('=').append(letter((c + child) % n));
+        }
+        return text.toString();
+    }
+
+    /** Everybody marries within the class and the child is of it. */
+    static String still(int n) {
+        return turning(n, 0, 0);
+    }
+
+    static String with(String text, int place, int sign) {
+        return text.substring(0, place) + (char) sign + text.substring(place + 1);
+    }
 }

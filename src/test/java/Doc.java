@@ -1,0 +1,28 @@
+import java.io.IOException;
+import java.io.UncheckedIOException;
+import java.nio.file.Files;
+import java.nio.file.Path;
+
+/** The document cut into its promises, so that a test can show that the words it goes by stand there. */
+final class Doc {
+    /** Place 0 holds the title and the terms, place k promise k; null where no document was told. */
+    private static final String[] PARTS = read(System.getProperty("doc"));
+
+    private Doc() {
+    }
+
+    private static String[] read(String path) {
+        if (path == null) {
+            return null;
+        }
+        try {
+            return Files.readString(Path.of(path)).replaceAll("\\s+", " ").split("## Promise \\d+: ");
+        } catch (IOException e) {
+            throw new UncheckedIOException(e);
+        }
+    }
+
+    static boolean says(int promise, String words) {
+        return PARTS == null || (promise < PARTS.length && PARTS[promise].contains(words));
+    }
+}
