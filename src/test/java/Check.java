@@ -25,7 +25,7 @@ final class Check {
         }
     }
 
-    /** Beside the bounds and at both ends of int the call is refused; each is asked of a new object. */
+    /** One below the least, one above the greatest and at both ends of int the call is refused. */
     void outside(String label, int least, int greatest, int refusal, IntUnaryOperator call) {
         int[] numbers = {least - 1, greatest + 1, Integer.MIN_VALUE, Integer.MIN_VALUE + 1,
                 Integer.MAX_VALUE - 1, Integer.MAX_VALUE};

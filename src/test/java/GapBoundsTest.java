@@ -9,6 +9,7 @@ public final class GapBoundsTest {
         unlikeSizes();
         leastAgreed();
         mostAgreed();
+        agreedByTables();
         theLeastOfSeveral();
         liesArguments();
         liesOfTheLatest();
@@ -84,6 +85,59 @@ public final class GapBoundsTest {
         SectionLand x = Check.land(Texts.EIGHT, "h+g=h;g+f=f;f+e=e;e+d=d;d+c=c;c+b=b;b+a=a;a+h=g");
         check.due("by other names", x.lay(0, 1), 16);
         check.row("from the other end", 0, x::lies, 7, 6, 5, 4, 3, 2, 1, 0, NONE);
+    }
+
+    /** The most that any laying has from a class on, with those below lying as told; by the tables alone. */
+    private static int mostFrom(int[][] first, int[][] second, int[] on, int c) {
+        int n = on.length;
+        if (c == n) {
+            int agreed = 0;
+            for (int i = 0; i < n; i++) {
+                agreed += on[first[0][i]] == second[0][on[i]] ? 1 : 0;
+                agreed += on[first[1][i]] == second[1][on[i]] ? 1 : 0;
+            }
+            return agreed;
+        }
+        int most = -1;
+        for (int d = 0; d < n; d++) {
+            boolean isFree = true;
+            for (int i = 0; i < c; i++) {
+                isFree &= on[i] != d;
+            }
+            if (isFree) {
+                on[c] = d;
+                most = Math.max(most, mostFrom(first, second, on, c + 1));
+            }
+        }
+        return most;
+    }
+
+    private static int[][] tables(SectionLand x, int system) {
+        int n = x.table(system, 0, 4);
+        int[][] tables = new int[2][n];
+        for (int c = 0; c < n; c++) {
+            tables[0][c] = x.table(system, c, 0);
+            tables[1][c] = x.table(system, c, 1);
+        }
+        return tables;
+    }
+
+    private static void agreedByTables() {
+        check.sentence(0, "AGREED are for how many classes the WIFE's class lies on the WIFE of what it lies on, and for "
+                + "how many the CHILD of a woman's does so; THE BEST has most together;");
+        String[][] fours = {
+            {Texts.FOUR, "a+a=b;b+c=a;c+b=d;d+d=c", Texts.turning(4, 1, 3), "a+b=a;b+a=b;c+c=c;d+d=d"},
+            {Texts.THREE, "a+a=b;b+c=a;c+b=c", "a+c=c;b+b=a;c+a=b", Texts.still(3)},
+            {Texts.FIFTEEN, Texts.EIGHT, Texts.turning(8, 3, 1), "a+b=h;b+a=g;c+d=f;d+c=e;e+f=d;f+e=c;g+h=b;h+g=a"}};
+        for (String[] four : fours) {
+            SectionLand x = Check.land(four);
+            int[][][] all = {tables(x, 0), tables(x, 1), tables(x, 2), tables(x, 3)};
+            for (int pair = 0; pair < 16; pair++) {
+                int[] on = new int[all[0][0].length];
+                int most = mostFrom(all[pair / 4], all[pair % 4], on, 0);
+                check.due(pair / 4 + " on " + pair % 4 + " of " + on.length, x.lay(pair / 4, pair % 4), most);
+            }
+        }
     }
 
     private static void theLeastOfSeveral() {

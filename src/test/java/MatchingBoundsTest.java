@@ -2,6 +2,15 @@
 public final class MatchingBoundsTest {
     private static final int NONE = SectionLand.NONE, BAD = SectionLand.BAD;
     private static final int MAN = 0, WOMAN = 1, BY_MOTHER = 0;
+    /**
+     * Mothers and fathers, out of the pairs 0 and 1, 2 and 3 .. of a family: the first man may marry the women 0
+     * and 2, the second 1 and 3, all others 0 and 1, since they are near the others.
+     */
+    private static final int[][] MEN = {{0, 1}, {2, 3}, {4, 5}, {4, 5}, {4, 5}, {4, 5}};
+    private static final int[][] WOMEN = {{6, 3}, {0, 7}, {4, 3}, {0, 5}};
+    /** The men may marry the women 0 2 3, 2 4 5, 1 3, 0 1, 0 3 4 5. */
+    private static final int[][] FIVE_MEN = {{4, 1}, {4, 5}, {6, 1}, {2, 3}, {4, 3}};
+    private static final int[][] SIX_WOMEN = {{6, 5}, {4, 5}, {6, 3}, {2, 5}, {2, 1}, {2, 1}};
     private static final Check check = new Check();
 
     public static void main(String[] args) {
@@ -12,6 +21,8 @@ public final class MatchingBoundsTest {
         whoMayMarry();
         leastWoman();
         leastWomanWithTheGreatestNumber();
+        leastWomanByChanges();
+        lastNumbers();
         withNoWoman();
         matchedArguments();
         matchedAheadOfAny();
@@ -20,6 +31,7 @@ public final class MatchingBoundsTest {
         noLack();
         lackOfSome();
         lackAgainAndAgain();
+        lackByChanges();
         lackOfTheLatest();
         check.end("MatchingBoundsTest");
     }
@@ -155,6 +167,92 @@ public final class MatchingBoundsTest {
         check.due("one", x.match(0, 150), 1);
         check.due("the first has the least then", x.matched(first), free);
         check.due("the brother has none", x.matched(brother), NONE);
+    }
+
+    /** Four pairs who die in 130, some who are born in 999, then men and women of these mothers and fathers. */
+    private static SectionLand family(int late, int[][] men, int[][] women, boolean womenFirst) {
+        SectionLand x = camps(1);
+        for (int p = 0; p < 8; p++) {
+            x.stranger(p % 2 == 0 ? WOMAN : MAN, 100, 0, 0);
+            x.die(p, 130);
+        }
+        for (int i = 0; i < late; i++) {
+            x.stranger(WOMAN, 999, 0, 0);
+        }
+        bear(x, womenFirst ? WOMAN : MAN, womenFirst ? women : men);
+        bear(x, womenFirst ? MAN : WOMAN, womenFirst ? men : women);
+        return x;
+    }
+
+    private static void bear(SectionLand x, int sex, int[][] parents) {
+        for (int[] pair : parents) {
+            x.born(sex, 120, pair[0], pair[1]);
+        }
+    }
+
+    private static SectionLand family(int late, int men, boolean womenFirst) {
+        return family(late, java.util.Arrays.copyOf(MEN, men), WOMEN, womenFirst);
+    }
+
+    /** The women whom the men have, by the numbers of both from 0 on. */
+    private static void couples(SectionLand x, int firstMan, int firstWoman, int... women) {
+        int couples = 0;
+        for (int woman : women) {
+            couples += woman == NONE ? 0 : 1;
+        }
+        check.due("couples", x.match(0, 140), couples);
+        for (int man = 0; man < women.length; man++) {
+            int woman = women[man];
+            check.due("of man " + man, x.matched(firstMan + man), woman == NONE ? NONE : firstWoman + woman);
+            if (woman != NONE) {
+                check.due("of woman " + woman, x.matched(firstWoman + woman), firstMan + man);
+            }
+        }
+    }
+
+    private static void leastWomanByChanges() {
+        check.sentence(0, "each gets the woman with the least number with whom that greatest number can still be had");
+        couples(family(0, 1, false), 8, 9, 0);
+        couples(family(0, 2, false), 8, 10, 0, 1);
+        couples(family(0, 3, false), 8, 11, 0, 3, 1);
+        couples(family(0, 4, false), 8, 12, 2, 3, 0, 1);
+        couples(family(0, 5, false), 8, 13, 2, 3, 0, 1, NONE);
+        couples(family(0, 3, true), 12, 8, 0, 3, 1);
+        couples(family(0, 4, true), 12, 8, 2, 3, 0, 1);
+        couples(family(0, 6, true), 12, 8, 2, 3, 0, 1, NONE, NONE);
+    }
+
+    /** The last man or the last woman has the last number that there can be. */
+    private static void lastNumbers() {
+        check.sentence(0, "PEOPLE are numbered from 0 on, 48 at most");
+        couples(family(33, 3, false), 41, 44, 0, 3, 1);
+        couples(family(32, 4, false), 40, 44, 2, 3, 0, 1);
+        couples(family(31, 5, false), 39, 44, 2, 3, 0, 1, NONE);
+        couples(family(33, 3, true), 45, 41, 0, 3, 1);
+        couples(family(32, 4, true), 44, 40, 2, 3, 0, 1);
+        couples(family(35, 1, true), 47, 43, 0);
+        couples(family(29, FIVE_MEN, SIX_WOMEN, true), 43, 37, 0, 2, 3, 1, 4);
+        couples(family(29, FIVE_MEN, SIX_WOMEN, false), 37, 42, 0, 2, 3, 1, 4);
+        SectionLand x = family(31, 5, true);
+        couples(x, 43, 39, 2, 3, 0, 1, NONE);
+        check.row("the last man lacks", 0, x::lack, 3, 2);
+        check.due("all are there", x.count(2), 48);
+    }
+
+    private static void lackByChanges() {
+        check.sentence(0, "(one less for each man without)");
+        int[][] lacks = {{0, 0}, {0, 0}, {0, 0}, {0, 0}, {3, 2}, {4, 2}};
+        for (int men = 1; men <= 6; men++) {
+            SectionLand x = family(0, men, men % 2 == 0);
+            x.match(0, 140);
+            check.row("of " + men, 0, x::lack, lacks[men - 1]);
+        }
+        SectionLand x = camps(1);
+        x.stranger(WOMAN, 100, 0, 0);
+        x.stranger(MAN, 100, 0, 0);
+        x.stranger(MAN, 100, 0, 0);
+        x.match(0, 120);
+        check.row("by woman 0", 0, x::lack, 2, 1);
     }
 
     private static void withNoWoman() {

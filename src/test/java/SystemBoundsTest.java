@@ -356,6 +356,14 @@ public final class SystemBoundsTest {
         check.due("the others", x.half(1, 10) & 1, 1);
         check.due("the first two of four", x.half(1, 3) & 1, 0);
         check.due("the first two, by two", x.half(2, 3) & 1, 1);
+        for (int alone = 0; alone < 3; alone++) {
+            // One class marries within itself, the two others one another.
+            int first = (alone + 1) % 3;
+            int second = (alone + 2) % 3;
+            SectionLand z = Check.land("" + Texts.letter(alone) + '+' + Texts.letter(alone) + "=a;" + Texts.letter(first)
+                    + '+' + Texts.letter(second) + "=b;" + Texts.letter(second) + '+' + Texts.letter(first) + "=c");
+            check.row("but for class " + alone, 1, set -> z.half(0, set) & 1, 0, 0, 0, 0, 0, 0);
+        }
         check.sentence(0, "MOTHERS', if the CHILD of each woman of it is in it, and of each outside is outside");
         SectionLand y = Check.land("a+a=b;b+b=a;c+c=c;d+d=d", "a+c=b;b+d=a;c+a=c;d+b=d");
         check.row("sets", 1, set -> y.half(0, set) >> 1 & 1, 0, 0, 1, 1, 0, 0, 1, 1, 0, 0, 1, 1, 0, 0);
