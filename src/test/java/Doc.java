@@ -5,24 +5,21 @@ import java.nio.file.Path;
 
 /** The document cut into its promises, so that a test can show that the words it goes by stand there. */
 final class Doc {
-    /** Place 0 holds the title and the terms, place k promise k; null where no document was told. */
-    private static final String[] PARTS = read(System.getProperty("doc"));
+    /** Place 0 holds the title and the terms, place k promise k. */
+    private static final String[] PARTS = read(Path.of("../shared/DOC.md"));
 
     private Doc() {
     }
 
-    private static String[] read(String path) {
-        if (path == null) {
-            return null;
-        }
+    private static String[] read(Path path) {
         try {
-            return Files.readString(Path.of(path)).replaceAll("\\s+", " ").split("## Promise \\d+: ");
+            return Files.readString(path).replaceAll("\\s+", " ").split("## Promise \\d+: ");
         } catch (IOException e) {
             throw new UncheckedIOException(e);
         }
     }
 
     static boolean says(int promise, String words) {
-        return PARTS == null || (promise < PARTS.length && PARTS[promise].contains(words));
+        return promise < PARTS.length && PARTS[promise].contains(words);
     }
 }

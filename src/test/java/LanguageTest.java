@@ -33,7 +33,7 @@ public final class LanguageTest {
         constants();
         face();
         classesInside();
-        text(Files.readString(Path.of(System.getProperty("source", "src/main/java/SectionLand.java"))));
+        text(Files.readString(Path.of("src/main/java/SectionLand.java")));
         check.end("LanguageTest");
     }
 
